@@ -66,7 +66,7 @@ public final class MailSessions {
         state = new State();
         loaded = new State();
         slots = new State[SLOTS];
-        for (int slot = 0; slot < SLOTS; slot++) {
+        for (int slot = 0; slot < slots.length; slot++) {
             slots[slot] = new State();
         }
         slotKept = new boolean[SLOTS];
@@ -1230,11 +1230,11 @@ public final class MailSessions {
             boxCount = 0;
             sessionCount = 0;
             boxes = new Box[MOST_BOXES];
-            for (int number = 0; number < MOST_BOXES; number++) {
+            for (int number = 0; number < boxes.length; number++) {
                 boxes[number] = new Box();
             }
             sessions = new Session[MOST_SESSIONS];
-            for (int number = 0; number < MOST_SESSIONS; number++) {
+            for (int number = 0; number < sessions.length; number++) {
                 sessions[number] = new Session();
             }
             noBox = new Box();
@@ -1397,7 +1397,7 @@ public final class MailSessions {
 
         History() {
             states = new State[MOST_UNDOS];
-            for (int at = 0; at < MOST_UNDOS; at++) {
+            for (int at = 0; at < states.length; at++) {
                 states[at] = new State();
             }
             next = 0;
