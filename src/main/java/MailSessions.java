@@ -1500,33 +1500,56 @@ public final class MailSessions {
         }
     }
 
-    /** The tokens of a text, one at a time; the first error stops them, and then no question is answered with yes. */
+    /** The tokens of a text; the first error stops them, and then no question is answered with yes. */
     private static final class Tokens {
         private static final int END = 0;
         private static final int WORD = 1;
         private static final int NUMBER = 2;
         private static final int SYMBOL = 3;
         private static final int STOPPED = 4;
+        /** A token for each byte, and the end of the text. */
+        private static final int TOKEN_ROOM = INPUT_ROOM + 1;
 
         private final Bytes text;
+        private final int[] kinds;
+        private final int[] starts;
+        /** A symbol's byte, or a number. */
+        private final int[] values;
+        private final long[] names;
+        private final Keyword[] keywords;
+        private int count;
+        private int at;
+
         private int kind;
         private int start;
-        private int end;
+        private int value;
+        private long name;
         private Keyword keyword;
         private int code;
         private int position;
 
         Tokens(Bytes text) {
             this.text = text;
+            kinds = new int[TOKEN_ROOM];
+            starts = new int[TOKEN_ROOM];
+            values = new int[TOKEN_ROOM];
+            names = new long[TOKEN_ROOM];
+            keywords = new Keyword[TOKEN_ROOM];
             kind = STOPPED;
             code = 0;
             position = NONE;
         }
 
         void begin() {
+            count = 0;
+            int from = 0;
+            for (int reads = 0; reads < INPUT_ROOM && from < text.size(); reads++) {
+                from = readOne(from);
+            }
+            addToken(END, text.size(), 0, 0, null);
             code = 0;
             position = NONE;
-            end = 0;
+            at = NONE;
             next();
         }
 
@@ -1534,23 +1557,13 @@ public final class MailSessions {
             if (code != 0) {
                 return;
             }
-            start = endOfGap(end);
-            int first = text.get(start);
-            keyword = null;
-            if (first == NONE) {
-                kind = END;
-                end = start;
-            } else if (isLetter(first)) {
-                kind = WORD;
-                end = endOfWord(start);
-                keyword = Keyword.spelled(text, start, end);
-            } else if (isDigit(first)) {
-                kind = NUMBER;
-                end = endOfNumber(start);
-            } else {
-                kind = SYMBOL;
-                end = start + 1;
-            }
+            at++;
+            boolean there = at >= 0 && at < count;
+            kind = there && at < kinds.length ? kinds[at] : END;
+            start = there && at < starts.length ? starts[at] : start;
+            value = there && at < values.length ? values[at] : 0;
+            name = there && at < names.length ? names[at] : 0;
+            keyword = there && at < keywords.length ? keywords[at] : null;
         }
 
         void fail(int itsCode) {
@@ -1571,7 +1584,7 @@ public final class MailSessions {
         }
 
         boolean isSymbol(char symbol) {
-            return kind == SYMBOL && text.get(start) == symbol;
+            return kind == SYMBOL && value == symbol;
         }
 
         boolean isKeyword(Keyword asked) {
@@ -1585,67 +1598,90 @@ public final class MailSessions {
         }
 
         boolean isName() {
-            return kind == WORD && keyword == null && end - start <= MOST_LETTERS;
+            return kind == WORD && keyword == null && name != 0;
         }
 
         long name() {
-            return text.nameAt(start, end);
+            return name;
         }
 
         void passSymbol(char symbol) {
-            if (isSymbol(symbol)) {
-                next();
-            } else {
+            if (!isSymbol(symbol)) {
                 fail(CANNOT_STAND);
             }
+            next();
         }
 
         void passKeyword(Keyword asked) {
-            if (isKeyword(asked)) {
-                next();
-            } else {
+            if (!isKeyword(asked)) {
                 fail(CANNOT_STAND);
             }
+            next();
         }
 
         int passNumber(int least, int most) {
-            int value = 0;
+            int passed = value;
             if (kind != NUMBER) {
                 fail(CANNOT_STAND);
-                return value;
-            }
-            for (int at = start; at < end && value <= MOST_SIZE; at++) {
-                value = value * 10 + text.get(at) - '0';
-            }
-            if (value < least || value > most) {
+            } else if (passed < least || passed > most) {
                 fail(OUT_OF_RANGE);
             }
             next();
-            return value;
+            return passed;
         }
 
-        private int endOfGap(int from) {
-            int at = from;
-            while (at < text.size() && (text.get(at) == ' ' || text.get(at) == '\n')) {
-                at++;
+        /** Reads what starts at a byte, be it a token or a gap, and tells where it ends. */
+        private int readOne(int from) {
+            int first = text.get(from);
+            int end = from + 1;
+            if (isLetter(first)) {
+                end = endOfWord(from);
+                addToken(WORD, from, 0, text.nameAt(from, end), Keyword.spelled(text, from, end));
+            } else if (isDigit(first)) {
+                end = endOfNumber(from);
+                addToken(NUMBER, from, numberAt(from, end), 0, null);
+            } else if (first != ' ' && first != '\n') {
+                addToken(SYMBOL, from, first, 0, null);
             }
-            return at;
+            return end;
+        }
+
+        private void addToken(int itsKind, int itsStart, int itsValue, long itsName, Keyword itsKeyword) {
+            int place = count;
+            if (place >= 0 && place < kinds.length && place < starts.length && place < values.length
+                    && place < names.length && place < keywords.length) {
+                kinds[place] = itsKind;
+                starts[place] = itsStart;
+                values[place] = itsValue;
+                names[place] = itsName;
+                keywords[place] = itsKeyword;
+                count++;
+            }
         }
 
         private int endOfWord(int from) {
-            int at = from;
-            while (at < text.size() && isLetter(text.get(at))) {
-                at++;
+            int end = from;
+            while (end < text.size() && isLetter(text.get(end))) {
+                end++;
             }
-            return at;
+            return end;
         }
 
         private int endOfNumber(int from) {
-            int at = from;
-            while (at < text.size() && isDigit(text.get(at))) {
-                at++;
+            int end = from;
+            while (end < text.size() && isDigit(text.get(end))) {
+                end++;
             }
-            return at;
+            return end;
+        }
+
+        /** Digits behind a number that is out of every range can't bring it back, and might overflow. */
+        private int numberAt(int from, int end) {
+            int number = 0;
+            for (int digit = from; digit < end && number <= MOST_SIZE; digit++) {
+                number = number * 10 + text.get(digit) - '0';
+            }
+            return number;
         }
 
         private static boolean isLetter(int sign) {

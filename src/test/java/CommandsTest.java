@@ -483,6 +483,10 @@ public final class CommandsTest {
         Checks.due("and does", 57, () -> x.noop(0));
         Checks.due("the view then", "1:31 2:32 3:59 4:60 5:61 6:62 7:63", () -> Checks.view(x, 0));
         Checks.due("removals told", 56, () -> x.account(0, 1));
+        x.undo();
+        Checks.due("fetch to entry 60", 2, () -> x.fetch(0, 59, 60, false));
+        Checks.due("store to entry 60", 2, () -> x.store(0, 59, 60, 2, 1, false));
+        Checks.due("copy to entry 60", 2, () -> x.copy(0, 59, 60, 0));
     }
 
     private static void newsBehindAllEntries() {

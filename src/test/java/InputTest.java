@@ -150,6 +150,8 @@ public final class InputTest {
         error("box a;message a size -1;", 1, 21);
         error("box a;message a size 1 seendeleted;", 1, 23);
         error("boxa;", 1, 0);
+        error("cox a;", 1, 0);
+        Checks.due("a name that differs in one letter from a keyword", 3, () -> Checks.loaded("box sox;box mot;box boxx;").property(0));
     }
 
     private static void errorsOfStatements() {

@@ -166,6 +166,9 @@ public final class QuestionsTest {
         x.uidStore(0, 2, 2, 1, 16);
         Checks.due("stale by flags alone", 2, x::stale);
         Checks.due("pending by flags alone", 1, () -> x.pending(1));
+        x.uidStore(0, 6, 6, 1, 16);
+        Checks.due("flags of the last entry", 2, () -> x.session(1, 5));
+        x.uidStore(0, 6, 6, 2, 16);
         x.uidStore(0, 2, 2, 2, 16);
         Checks.due("flags that are back again are no news", 0, x::stale);
         Checks.dueIndex("pending 4", () -> x.pending(4));
@@ -192,6 +195,7 @@ public final class QuestionsTest {
         Checks.due("the lowest of several", 2, () -> x.largest(0));
         x.store(1, 2, 2, 1, 8, false);
         x.expunge(1);
+        Checks.due("the first, of size 1", 1, () -> Checks.loaded("box a;message a size 1;session s a;").largest(0));
         Checks.due("one that is not gone", 4, () -> x.largest(0));
         Checks.due("of the other's numbers", 3, () -> x.largest(1));
         x.uidStore(1, 1, 9, 0, 8);
@@ -237,6 +241,8 @@ public final class QuestionsTest {
         x.deliver(0, 7, 2);
         Checks.due("unseen of a then", 0.75f, () -> x.unseen(0));
         Checks.due("mean of a then", 10009.0 / 4.0, () -> x.mean(0));
+        x.deliver(2, 6, 30);
+        Checks.due("unseen of one", 1.0f, () -> x.unseen(2));
         Checks.dueIndex("unseen of 3", () -> x.unseen(3));
         Checks.dueIndex("mean of -1", () -> x.mean(-1));
     }
