@@ -250,6 +250,8 @@ public final class InputTest {
         error("box a;message a", 1, 15);
         error("box a;message a size", 1, 20);
         error("box a;message a size 1 ", 1, 23);
+        error("box a;message a size 1" + " ".repeat(678), 1, 700);
+        error("limit 3;" + " ".repeat(691) + ";", 1, 699);
         error("session", 1, 7);
         error("session s  ", 1, 11);
         error("box a;session s reads", 1, 21);

@@ -128,6 +128,10 @@ public final class QueryTest {
         answer(x, "not (((( all ))))", 0);
         answer(x, "not not not not not all not not not not not all", 0);
         answer(x, "((((all) not (all)))) or not ((all) (not all))", 31);
+        String full = "(((((all)))))".repeat(53) + " ".repeat(11);
+        answer(x, full, 31);
+        error(x, full.substring(0, 699) + ")", 1, 699);
+        error(x, "(((((all)))))".repeat(53) + "(((((((((((", 5, 694);
     }
 
     private static void error(MailSessions x, String query, int code, int position) {
