@@ -7,9 +7,33 @@ final class Checks {
         Object make();
     }
 
+    /** A state to ask or to call; each one is used for less than 512 calls. */
+    interface Scene {
+        MailSessions make();
+    }
+
+    interface Deed {
+        Object on(MailSessions x);
+    }
+
+    interface NumberedDeed {
+        Object on(MailSessions x, int number);
+    }
+
+    static final String INDEX = "IndexOutOfBoundsException";
+    static final String ARGUMENT = "IllegalArgumentException";
+    static final String STATE = "IllegalStateException";
+    static final String NO_ELEMENT = "NoSuchElementException";
+
     private static int wrong = 0;
+    private static String test = "";
 
     private Checks() {
+    }
+
+    /** What the answers that are not as due are told with. */
+    static void name(String itsName) {
+        test = itsName;
     }
 
     /** An answer as text; a boolean counts 1 or 0, a throw is told as throws.Name. */
@@ -50,17 +74,107 @@ final class Checks {
     static void fail(String what) {
         wrong++;
         if (wrong <= 50) {
-            System.out.println(what);
+            System.out.println(test.isEmpty() ? what : test + ": " + what);
         }
     }
 
-    /** A call that is due to throw, and to leave everything as it was. */
+    /** A call that is due to throw, and to leave as it was what a few calls tell; refused() looks at everything. */
     static void dueUnchanged(MailSessions x, String what, String exception, Call call) {
-        String before = everything(x);
+        String before = few(x);
         due(what, "throws." + exception, call);
-        String after = everything(x);
+        String after = few(x);
         if (!before.equals(after)) {
             fail(what + " changed\n" + before + "\ninto\n" + after);
+        }
+    }
+
+    private static String few(MailSessions x) {
+        return x.property(2) + " " + x.property(3) + " " + x.property(4) + " " + x.stale() + " " + x.undoCount() + " "
+                + inputLength(x) + " " + x.errorPosition();
+    }
+
+    /** A call that is due to throw, and to leave everything as it was: each part is asked of new objects. */
+    static void refused(String exception, String what, Scene scene, Deed call) {
+        unchanged(what, scene, x -> due(what, "throws." + exception, () -> call.on(x)));
+    }
+
+    /** The numbers that stand next to those from least to most, and the ends of int, are due to throw. */
+    static void refusedBeside(int least, int most, String exception, Scene scene, NumberedDeed call) {
+        for (int number : new int[] {least - 1, most + 1, Integer.MIN_VALUE, Integer.MAX_VALUE}) {
+            refused(exception, "with " + number, scene, x -> call.on(x, number));
+        }
+    }
+
+    interface Act {
+        void on(MailSessions x);
+    }
+
+    /** An act that is due to leave everything as it was. */
+    static void unchanged(String what, Scene scene, Act act) {
+        for (int part = 0; part < PARTS; part++) {
+            String before = partOf(scene.make(), part);
+            MailSessions x = scene.make();
+            act.on(x);
+            String after = partOf(x, part);
+            if (!before.equals(after)) {
+                fail(what + " changed\n" + before + "\ninto\n" + after);
+            }
+        }
+    }
+
+    private static final int PARTS = 5;
+
+    /** A part of all that can be seen of an object, in less than 400 calls that may spoil it. */
+    private static String partOf(MailSessions x, int part) {
+        switch (part) {
+            case 0: return everything(x);
+            case 1: return outputOf(x);
+            case 2: return inputOf(x);
+            case 3: return "slots " + outcome(() -> x.restore(0)) + kept(x) + outcome(() -> x.restore(1)) + x.property(3);
+            default: return pastOf(x);
+        }
+    }
+
+    private static String outputOf(MailSessions x) {
+        StringBuilder text = new StringBuilder("output ");
+        for (int at = 0; at < 300; at++) {
+            int index = at;
+            String each = outcome(() -> x.outputByte(index));
+            if (each.startsWith("throws")) {
+                break;
+            }
+            text.append(each).append(' ');
+        }
+        return text.toString();
+    }
+
+    /** The buffer is told by what it is as a query; where there is no box, by what it is as a text. */
+    private static String inputOf(MailSessions x) {
+        String answer = outcome(() -> x.property(0) > 0 ? x.searchBox(0) : x.load());
+        return "input " + answer + " " + x.errorCode() + "@" + x.errorPosition();
+    }
+
+    private static String pastOf(MailSessions x) {
+        StringBuilder text = new StringBuilder("past");
+        for (int times = 0; times < 7; times++) {
+            text.append("\n").append(outcome(x::undo)).append(' ').append(x.property(2)).append(' ').append(x.stale());
+            for (int box = 0; box < x.property(0); box++) {
+                text.append(' ').append(x.box(box, 0)).append(' ').append(x.box(box, 1)).append(' ').append(x.box(box, 3));
+            }
+            for (int session = 0; session < x.property(1); session++) {
+                text.append(' ').append(x.session(session, 0)).append(' ').append(x.session(session, 2))
+                        .append(' ').append(x.pending(session)).append(' ').append(x.account(session, 0));
+            }
+        }
+        return text.toString();
+    }
+
+    /** Answers are due for the numbers from least on. */
+    static void dueFrom(int least, Object[] answers, Scene scene, NumberedDeed call) {
+        for (int k = 0; k < answers.length; k++) {
+            int number = least + k;
+            MailSessions x = scene.make();
+            due("with " + number, answers[k], () -> call.on(x, number));
         }
     }
 
@@ -92,6 +206,43 @@ final class Checks {
             fail("no parse error is due in " + text + " but " + x.errorCode() + " at " + x.errorPosition());
         }
         return x;
+    }
+
+    /** A text with the sign ^ ahead of the token whose error is due. */
+    static void error(int code, String marked) {
+        int position = marked.indexOf('^');
+        String text = marked.substring(0, position) + marked.substring(position + 1);
+        MailSessions x = new MailSessions();
+        feed(x, text);
+        due("load of " + marked, -4, x::load);
+        due("errorCode of " + marked, code, x::errorCode);
+        due("errorPosition of " + marked, position, x::errorPosition);
+    }
+
+    /** A query with the sign ^ ahead of the token whose error is due. */
+    static void queryError(int code, String marked) {
+        int position = marked.indexOf('^');
+        String query = marked.substring(0, position) + marked.substring(position + 1);
+        MailSessions x = loaded("box a;message a size 10;session s a;");
+        feed(x, query);
+        due("searchBox of " + marked, -4, () -> x.searchBox(0));
+        due("errorCode of " + marked, code, x::errorCode);
+        due("errorPosition of " + marked, position, x::errorPosition);
+        MailSessions y = loaded("box a;message a size 10;session s a;");
+        feed(y, query);
+        due("search of " + marked, -4L, () -> y.search(0));
+        due("errorCode of a search of " + marked, code, y::errorCode);
+        due("errorPosition of a search of " + marked, position, y::errorPosition);
+    }
+
+    static int searched(MailSessions x, int box, String query) {
+        feed(x, query);
+        return x.searchBox(box);
+    }
+
+    static long found(MailSessions x, int session, String query) {
+        feed(x, query);
+        return x.search(session);
     }
 
     /** The input's length; a full buffer is told by a length too, as truncate() alone refuses the rest. */

@@ -78,63 +78,63 @@ public final class QueryTest {
     }
 
     private static void errors() {
-        MailSessions x = Checks.loaded(TEXT);
-        error(x, "", 1, 0);
-        error(x, "  ", 1, 2);
-        error(x, "or", 1, 0);
-        error(x, "seen or", 1, 7);
-        error(x, "seen or or all", 1, 8);
-        error(x, "not", 1, 3);
-        error(x, "not or all", 1, 4);
-        error(x, "(", 1, 1);
-        error(x, "()", 1, 1);
-        error(x, "(all", 1, 4);
-        error(x, "all)", 1, 3);
-        error(x, "(all))", 1, 5);
-        error(x, "(not)", 1, 4);
-        error(x, "all;", 1, 3);
-        error(x, "size", 1, 4);
-        error(x, "size 3", 1, 5);
-        error(x, "size = 3", 1, 5);
-        error(x, "size <", 1, 6);
-        error(x, "size < all", 1, 7);
-        error(x, "size <> 3", 1, 6);
-        error(x, "size < -3", 1, 7);
-        error(x, "size < 10000", 2, 7);
-        error(x, "uid > 10000", 2, 6);
-        error(x, "uid > 99999999999", 2, 6);
-        error(x, "uid > 4294967296 )", 2, 6);
-        error(x, "uid 3", 1, 4);
-        error(x, "box", 1, 0);
-        error(x, "limit", 1, 0);
-        error(x, "message", 1, 0);
-        error(x, "session", 1, 0);
-        error(x, "reads", 1, 0);
-        error(x, "inbox", 1, 0);
-        error(x, "all 3", 1, 4);
-        error(x, "seenanswered", 1, 0);
-        error(x, "all\u0000", 1, 3);
+        error("", 1, 0);
+        error("  ", 1, 2);
+        error("or", 1, 0);
+        error("seen or", 1, 7);
+        error("seen or or all", 1, 8);
+        error("not", 1, 3);
+        error("not or all", 1, 4);
+        error("(", 1, 1);
+        error("()", 1, 1);
+        error("(all", 1, 4);
+        error("all)", 1, 3);
+        error("(all))", 1, 5);
+        error("(not)", 1, 4);
+        error("all;", 1, 3);
+        error("size", 1, 4);
+        error("size 3", 1, 5);
+        error("size = 3", 1, 5);
+        error("size <", 1, 6);
+        error("size < all", 1, 7);
+        error("size <> 3", 1, 6);
+        error("size < -3", 1, 7);
+        error("size < 10000", 2, 7);
+        error("uid > 10000", 2, 6);
+        error("uid > 99999999999", 2, 6);
+        error("uid > 4294967296 )", 2, 6);
+        error("uid 3", 1, 4);
+        error("box", 1, 0);
+        error("limit", 1, 0);
+        error("message", 1, 0);
+        error("session", 1, 0);
+        error("reads", 1, 0);
+        error("inbox", 1, 0);
+        error("all 3", 1, 4);
+        error("seenanswered", 1, 0);
+        error("all\u0000", 1, 3);
     }
 
     private static void depth() {
         MailSessions x = Checks.loaded(TEXT);
-        error(x, "not not not not not not seen", 5, 20);
-        error(x, "((((((all))))))", 5, 5);
-        error(x, "not(not(not(all)))", 5, 11);
-        error(x, "(((((not all)))))", 5, 5);
-        error(x, "not (((( all or not seen ))))", 5, 16);
-        error(x, "((((( not", 5, 6);
-        error(x, "size ((((((", 1, 5);
+        error("not not not not not not seen", 5, 20);
+        error("((((((all))))))", 5, 5);
+        error("not(not(not(all)))", 5, 11);
+        error("(((((not all)))))", 5, 5);
+        error("not (((( all or not seen ))))", 5, 16);
+        error("((((( not", 5, 6);
+        error("size ((((((", 1, 5);
         answer(x, "not (((( all ))))", 0);
         answer(x, "not not not not not all not not not not not all", 0);
         answer(x, "((((all) not (all)))) or not ((all) (not all))", 31);
         String full = "(((((all)))))".repeat(53) + " ".repeat(11);
         answer(x, full, 31);
-        error(x, full.substring(0, 699) + ")", 1, 699);
-        error(x, "(((((all)))))".repeat(53) + "(((((((((((", 5, 694);
+        error(full.substring(0, 699) + ")", 1, 699);
+        error("(((((all)))))".repeat(53) + "(((((((((((", 5, 694);
     }
 
-    private static void error(MailSessions x, String query, int code, int position) {
+    private static void error(String query, int code, int position) {
+        MailSessions x = Checks.loaded(TEXT);
         Checks.feed(x, query);
         Checks.due("searchBox of " + query, -4, () -> x.searchBox(0));
         Checks.due("errorCode of " + query, code, x::errorCode);
@@ -148,17 +148,21 @@ public final class QueryTest {
     }
 
     private static void searchBoxChangesNoMore() {
+        String before = Checks.everything(changed());
+        MailSessions x = changed();
+        Checks.searched(x, 0, "all");
+        Checks.due("searchBox is no command", before, () -> Checks.everything(x));
+        MailSessions y = changed();
+        Checks.searched(y, 0, "all all )");
+        String error = before.replace("error 0@-1", "error 1@8");
+        Checks.due("nor with an error", error, () -> Checks.everything(y));
+    }
+
+    private static MailSessions changed() {
         MailSessions x = Checks.loaded(TEXT);
         x.startIdle(1);
         x.uidStore(0, 1, 5, 1, 2);
-        String before = Checks.everything(x);
-        Checks.feed(x, "all");
-        x.searchBox(0);
-        Checks.due("searchBox is no command", before, () -> Checks.everything(x));
-        Checks.feed(x, "all all )");
-        x.searchBox(0);
-        String error = before.replace("error 0@-1", "error 1@8");
-        Checks.due("nor with an error", error, () -> Checks.everything(x));
+        return x;
     }
 
     private static void searchBoxThrows() {
