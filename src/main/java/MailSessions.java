@@ -10,6 +10,7 @@ public final class MailSessions {
     private static final int MOST_MESSAGES = 30;
     private static final int MOST_ENTRIES = 60;
     private static final int MOST_SIZE = 9999;
+    private static final int FIRST_UID = 1;
     private static final int MOST_UNDOS = 6;
     private static final int MOST_OPEN = 5;
     private static final int MOST_LETTERS = 6;
@@ -420,7 +421,7 @@ public final class MailSessions {
         Session active = requireSession(session);
         Box selected = requireWriting(active);
         beginCommand(active);
-        int removed = selected.removeDeleted(Integer.MIN_VALUE, Integer.MAX_VALUE);
+        int removed = selected.removeDeleted(FIRST_UID, selected.nextUid);
         endCommand(session, true);
         return removed;
     }
@@ -471,7 +472,7 @@ public final class MailSessions {
         beginCommand(active);
         int removed = 0;
         if (!active.readsOnly) {
-            removed = selected.removeDeleted(Integer.MIN_VALUE, Integer.MAX_VALUE);
+            removed = selected.removeDeleted(FIRST_UID, selected.nextUid);
         }
         active.leave();
         state.tellIdle(notices);
@@ -860,7 +861,7 @@ public final class MailSessions {
 
         Box() {
             name = 0;
-            nextUid = 1;
+            nextUid = FIRST_UID;
             uids = new Numbers(MOST_MESSAGES);
             sizes = new Numbers(MOST_MESSAGES);
             flags = new Numbers(MOST_MESSAGES);
@@ -868,7 +869,7 @@ public final class MailSessions {
 
         void begin(long newName) {
             name = newName;
-            nextUid = 1;
+            nextUid = FIRST_UID;
             uids.clear();
             sizes.clear();
             flags.clear();

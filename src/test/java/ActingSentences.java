@@ -194,7 +194,10 @@ final class ActingSentences {
         });
         s.holds(SESSION, () -> Checks.dueFrom(0, new Object[] {10, "throws." + Checks.STATE, 10, "throws." + Checks.INDEX},
                 Scenes::busy, (x, session) -> x.fetch(session, 1, 1, true)));
-        s.holds(FROM, () -> Checks.dueFrom(1, new Object[] {140, 130, 100, 60}, Scenes::busy, (x, from) -> x.fetch(0, from, 4, true)));
+        s.holds(FROM, () -> {
+            Checks.dueFrom(1, new Object[] {140, 130, 100, 60}, Scenes::busy, (x, from) -> x.fetch(0, from, 4, true));
+            Checks.dueFrom(59, new Object[] {59, 30}, () -> Scenes.wide(60), (x, from) -> x.fetch(0, from, 60, true));
+        });
         s.holds(TO, () -> {
             Checks.dueFrom(1, new Object[] {10, 40, 80, 140}, Scenes::busy, (x, to) -> x.fetch(0, 1, to, true));
             Checks.dueFrom(3, new Object[] {40, 100}, Scenes::busy, (x, to) -> x.fetch(0, 3, to, true));
@@ -223,6 +226,7 @@ final class ActingSentences {
             Checks.refusedBeside(0, 3, Checks.INDEX, Scenes::busy, (x, session) -> x.fetch(session, 1, 1, false));
             Checks.refusedBeside(1, 4, Checks.INDEX, Scenes::busy, (x, from) -> x.fetch(0, from, 4, false));
             Checks.refusedBeside(1, 4, Checks.INDEX, Scenes::busy, (x, to) -> x.fetch(0, 1, to, false));
+            Checks.refusedBeside(1, 60, Checks.INDEX, () -> Scenes.wide(60), (x, from) -> x.fetch(0, from, 60, false));
             Checks.refusedBeside(1, 60, Checks.INDEX, () -> Scenes.wide(60), (x, to) -> x.fetch(0, 1, to, false));
             Checks.refused(Checks.INDEX, "in an empty view", Scenes::full, x -> x.fetch(1, 1, 1, true));
             Checks.refused(Checks.INDEX, "0 to 0 in an empty view", Scenes::full, x -> x.fetch(1, 0, 0, true));
@@ -252,8 +256,14 @@ final class ActingSentences {
         });
         s.holds(SESSION, () -> Checks.dueFrom(0, new Object[] {1, "throws." + Checks.STATE, "throws." + Checks.STATE,
             "throws." + Checks.INDEX}, Scenes::busy, (x, session) -> x.store(session, 1, 1, 0, 0, false)));
-        s.holds(FROM, () -> Checks.dueFrom(1, new Object[] {4, 3, 2, 1}, Scenes::busy, (x, from) -> x.store(0, from, 4, 0, 31, true)));
-        s.holds(TO, () -> Checks.dueFrom(1, new Object[] {1, 2, 3, 4}, Scenes::busy, (x, to) -> x.store(0, 1, to, 0, 31, true)));
+        s.holds(FROM, () -> {
+            Checks.dueFrom(1, new Object[] {4, 3, 2, 1}, Scenes::busy, (x, from) -> x.store(0, from, 4, 0, 31, true));
+            Checks.dueFrom(59, new Object[] {2, 1}, () -> Scenes.wide(60), (x, from) -> x.store(0, from, 60, 0, 31, true));
+        });
+        s.holds(TO, () -> {
+            Checks.dueFrom(1, new Object[] {1, 2, 3, 4}, Scenes::busy, (x, to) -> x.store(0, 1, to, 0, 31, true));
+            Checks.dueFrom(59, new Object[] {29, 30}, () -> Scenes.wide(60), (x, to) -> x.store(0, 1, to, 0, 31, true));
+        });
         s.holds(MODE, () -> Checks.dueFrom(0, new Object[] {6, 22, 16}, Scenes::busy, (x, mode) -> {
             x.store(0, 1, 1, mode, 6, false);
             return x.message(0, 0, 2);
@@ -300,6 +310,8 @@ final class ActingSentences {
             Checks.refusedBeside(0, 3, Checks.INDEX, Scenes::busy, (x, session) -> x.store(session, 1, 1, 0, 0, false));
             Checks.refusedBeside(1, 4, Checks.INDEX, Scenes::busy, (x, from) -> x.store(0, from, 4, 0, 0, false));
             Checks.refusedBeside(1, 4, Checks.INDEX, Scenes::busy, (x, to) -> x.store(0, 1, to, 0, 0, true));
+            Checks.refusedBeside(1, 60, Checks.INDEX, () -> Scenes.wide(60), (x, from) -> x.store(0, from, 60, 0, 0, true));
+            Checks.refusedBeside(1, 60, Checks.INDEX, () -> Scenes.wide(60), (x, to) -> x.store(0, 1, to, 0, 0, true));
             Checks.refused(Checks.INDEX, "in an empty view", Scenes::full, x -> x.store(1, 1, 1, 0, 0, true));
             Checks.refused(Checks.INDEX, "without a box", Scenes::busy, x -> x.store(3, 1, 1, 0, 0, true));
         });
@@ -557,8 +569,14 @@ final class ActingSentences {
         });
         s.holds(SESSION, () -> Checks.dueFrom(0, new Object[] {1, "throws." + Checks.STATE, 1, "throws." + Checks.INDEX},
                 Scenes::busy, (x, session) -> x.copy(session, 1, 1, 1)));
-        s.holds(FROM, () -> Checks.dueFrom(2, new Object[] {3, 2, 1}, Scenes::busy, (x, from) -> x.copy(0, from, 4, 1)));
-        s.holds(TO, () -> Checks.dueFrom(1, new Object[] {1, 2, 3}, Scenes::busy, (x, to) -> x.copy(0, 1, to, 1)));
+        s.holds(FROM, () -> {
+            Checks.dueFrom(2, new Object[] {3, 2, 1}, Scenes::busy, (x, from) -> x.copy(0, from, 4, 1));
+            Checks.dueFrom(59, new Object[] {2, 1}, () -> Scenes.wide(60), (x, from) -> x.copy(0, from, 60, 1));
+        });
+        s.holds(TO, () -> {
+            Checks.dueFrom(1, new Object[] {1, 2, 3}, Scenes::busy, (x, to) -> x.copy(0, 1, to, 1));
+            Checks.dueFrom(59, new Object[] {29, 30}, () -> Scenes.wide(60), (x, to) -> x.copy(0, 1, to, 1));
+        });
         s.holds(TARGET, () -> Checks.dueFrom(0, new Object[] {5, 3}, Scenes::busy, (x, box) -> {
             x.copy(0, 4, 4, box);
             return x.box(box, 0);
@@ -578,6 +596,8 @@ final class ActingSentences {
             Checks.refusedBeside(0, 3, Checks.INDEX, Scenes::busy, (x, session) -> x.copy(session, 1, 1, 1));
             Checks.refusedBeside(1, 4, Checks.INDEX, Scenes::busy, (x, from) -> x.copy(0, from, 4, 1));
             Checks.refusedBeside(1, 4, Checks.INDEX, Scenes::busy, (x, to) -> x.copy(0, 1, to, 1));
+            Checks.refusedBeside(1, 60, Checks.INDEX, () -> Scenes.wide(60), (x, from) -> x.copy(0, from, 60, 1));
+            Checks.refusedBeside(1, 60, Checks.INDEX, () -> Scenes.wide(60), (x, to) -> x.copy(0, 1, to, 1));
             Checks.refusedBeside(0, 1, Checks.INDEX, Scenes::busy, (x, box) -> x.copy(0, 1, 1, box));
             Checks.refused(Checks.INDEX, "in an empty view", Scenes::full, x -> x.copy(1, 1, 1, 1));
             Checks.refused(Checks.INDEX, "of one that is gone into no box", Scenes::busy, x -> x.copy(2, 2, 2, 2));
@@ -633,8 +653,14 @@ final class ActingSentences {
         });
         s.holds(SESSION, () -> Checks.dueFrom(0, new Object[] {1, "throws." + Checks.STATE, "throws." + Checks.STATE,
             "throws." + Checks.INDEX}, Scenes::busy, (x, session) -> x.move(session, 1, 1, 1)));
-        s.holds(FROM, () -> Checks.dueFrom(2, new Object[] {3, 2, 1}, Scenes::busy, (x, from) -> x.move(0, from, 4, 1)));
-        s.holds(TO, () -> Checks.dueFrom(1, new Object[] {1, 2, 3}, Scenes::busy, (x, to) -> x.move(0, 1, to, 1)));
+        s.holds(FROM, () -> {
+            Checks.dueFrom(2, new Object[] {3, 2, 1}, Scenes::busy, (x, from) -> x.move(0, from, 4, 1));
+            Checks.dueFrom(59, new Object[] {2, 1}, () -> Scenes.wide(60), (x, from) -> x.move(0, from, 60, 1));
+        });
+        s.holds(TO, () -> {
+            Checks.dueFrom(1, new Object[] {1, 2, 3}, Scenes::busy, (x, to) -> x.move(0, 1, to, 1));
+            Checks.dueFrom(59, new Object[] {29, 30}, () -> Scenes.wide(60), (x, to) -> x.move(0, 1, to, 1));
+        });
         s.holds(TARGET, () -> Checks.dueFrom(0, new Object[] {4, 3}, Scenes::busy, (x, box) -> {
             x.move(0, 4, 4, box);
             return x.box(box, 0);
@@ -649,6 +675,8 @@ final class ActingSentences {
             Checks.refusedBeside(0, 3, Checks.INDEX, Scenes::busy, (x, session) -> x.move(session, 1, 1, 1));
             Checks.refusedBeside(1, 4, Checks.INDEX, Scenes::busy, (x, from) -> x.move(0, from, 4, 1));
             Checks.refusedBeside(1, 4, Checks.INDEX, Scenes::busy, (x, to) -> x.move(0, 1, to, 1));
+            Checks.refusedBeside(1, 60, Checks.INDEX, () -> Scenes.wide(60), (x, from) -> x.move(0, from, 60, 1));
+            Checks.refusedBeside(1, 60, Checks.INDEX, () -> Scenes.wide(60), (x, to) -> x.move(0, 1, to, 1));
             Checks.refusedBeside(0, 1, Checks.INDEX, Scenes::busy, (x, box) -> x.move(0, 1, 1, box));
             Checks.refused(Checks.INDEX, "in an empty view", Scenes::full, x -> x.move(1, 1, 1, 1));
         });

@@ -193,6 +193,18 @@ final class AskingSentences {
             Checks.due("a text without boxes", 0, y::load);
             Checks.dueIndex("no box is left", () -> y.box(0, 0));
             Checks.dueIndex("no session is left", () -> y.session(0, 0));
+            String full = "box a;box b;message a size 7 seen draft;message b size 8 deleted;session s a;session t reads b;";
+            for (String bare : new String[] {"box a;box b;message a size 1;session s;session t;", "box b;session s reads b;",
+                "box a;box b;message b size 2 draft;session t b;session s;", "session s;", "limit 3;"}) {
+                MailSessions z = Checks.loaded(full);
+                Checks.feed(z, full);
+                z.load();
+                Checks.feed(z, bare);
+                z.load();
+                Checks.due("behind a text that has more", Checks.kept(Checks.loaded(bare)), () -> Checks.kept(z));
+                z.undo();
+                Checks.due("and that back again", Checks.kept(Checks.loaded(full)), () -> Checks.kept(z));
+            }
         });
         s.holds("Returns the number of messages;", () -> {
             Checks.due("none", 0, () -> loads("box a;"));
@@ -659,6 +671,9 @@ final class AskingSentences {
             Checks.due("the first", 1, () -> x.firstUnseen(0));
             Checks.due("without a box", -1, () -> x.firstUnseen(2));
             Checks.due("an empty view", -1, () -> Scenes.full().firstUnseen(1));
+            Checks.due("the only one", 1, () -> Checks.loaded("box a;message a size 1;session s a;").firstUnseen(0));
+            Checks.due("the last one", 2,
+                    () -> Checks.loaded("box a;message a size 1 seen;message a size 1;session s a;").firstUnseen(0));
             MailSessions wide = Scenes.wide(59);
             wide.noop(1);
             wide.uidStore(1, 31, 60, 0, 1);
@@ -767,6 +782,8 @@ final class AskingSentences {
                 + "0.0f without messages.", () -> {
                     Checks.due("without messages", 0.0f, () -> Scenes.full().unseen(1));
                     Checks.due("all", 1.0f, () -> Scenes.full().unseen(0));
+                    Checks.due("the only one", 1.0f, () -> Checks.loaded("box a;message a size 1 draft;").unseen(0));
+                    Checks.due("the only one, seen", 0.0f, () -> Checks.loaded("box a;message a size 1 seen;").unseen(0));
                     MailSessions x = Scenes.full();
                     for (int seen = 1; seen <= 30; seen++) {
                         x.uidStore(0, seen, seen, 0, 31);

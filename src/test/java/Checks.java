@@ -98,9 +98,9 @@ final class Checks {
         unchanged(what, scene, x -> due(what, "throws." + exception, () -> call.on(x)));
     }
 
-    /** The numbers that stand next to those from least to most, and the ends of int, are due to throw. */
+    /** The numbers that stand next to those from least to most, -1 and the ends of int, are due to throw. */
     static void refusedBeside(int least, int most, String exception, Scene scene, NumberedDeed call) {
-        for (int number : new int[] {least - 1, most + 1, Integer.MIN_VALUE, Integer.MAX_VALUE}) {
+        for (int number : new int[] {least - 1, most + 1, most + 2, -1, Integer.MIN_VALUE, Integer.MAX_VALUE}) {
             refused(exception, "with " + number, scene, x -> call.on(x, number));
         }
     }
@@ -109,30 +109,48 @@ final class Checks {
         void on(MailSessions x);
     }
 
+    /** A part of all that can be seen of an object, in less than 400 calls that may spoil it. */
+    enum Part { NOTICES, READING, UNDO_COUNT, KEPT, OUTPUT, INPUT, SLOTS, PAST }
+
     /** An act that is due to leave everything as it was. */
     static void unchanged(String what, Scene scene, Act act) {
-        for (int part = 0; part < PARTS; part++) {
+        leaves(what, scene, act, Part.values());
+    }
+
+    /** An act that is due to leave some parts as they were; each is asked of new objects. */
+    static void leaves(String what, Scene scene, Act act, Part... parts) {
+        for (Part part : parts) {
             String before = partOf(scene.make(), part);
             MailSessions x = scene.make();
             act.on(x);
             String after = partOf(x, part);
             if (!before.equals(after)) {
-                fail(what + " changed\n" + before + "\ninto\n" + after);
+                fail(what + " changed " + part + "\n" + before + "\ninto\n" + after);
             }
         }
     }
 
-    private static final int PARTS = 5;
-
-    /** A part of all that can be seen of an object, in less than 400 calls that may spoil it. */
-    private static String partOf(MailSessions x, int part) {
+    private static String partOf(MailSessions x, Part part) {
         switch (part) {
-            case 0: return everything(x);
-            case 1: return outputOf(x);
-            case 2: return inputOf(x);
-            case 3: return "slots " + outcome(() -> x.restore(0)) + kept(x) + outcome(() -> x.restore(1)) + x.property(3);
+            case NOTICES: return noticesOf(x);
+            case READING: return x.errorCode() + "@" + x.errorPosition() + " of " + inputLength(x);
+            case UNDO_COUNT: return "" + x.undoCount();
+            case KEPT: return kept(x);
+            case OUTPUT: return outputOf(x);
+            case INPUT: return inputOf(x);
+            case SLOTS: return outcome(() -> x.restore(0)) + kept(x) + outcome(() -> x.restore(1)) + x.property(3);
             default: return pastOf(x);
         }
+    }
+
+    private static String noticesOf(MailSessions x) {
+        StringBuilder text = new StringBuilder();
+        int count = x.property(4);
+        for (int index = 0; index < count; index++) {
+            text.append(' ').append(x.notice(index, 0)).append('/').append(x.notice(index, 1))
+                    .append('/').append(x.notice(index, 2)).append('/').append(x.notice(index, 3));
+        }
+        return text.toString();
     }
 
     private static String outputOf(MailSessions x) {
@@ -280,11 +298,9 @@ final class Checks {
     /** Every answer of the methods that ask, but for the output buffer and the slots. */
     static String everything(MailSessions x) {
         List<Object> all = new ArrayList<>();
+        String notices = x.property(4) + noticesOf(x);
         all.add("input " + inputLength(x) + " error " + x.errorCode() + "@" + x.errorPosition());
-        all.add("undo " + x.undoCount() + kept(x) + "\nnotices " + x.property(4));
-        for (int index = 0; index < x.property(4); index++) {
-            all.add(x.notice(index, 0) + "/" + x.notice(index, 1) + "/" + x.notice(index, 2) + "/" + x.notice(index, 3));
-        }
+        all.add("undo " + x.undoCount() + kept(x) + "\nnotices " + notices);
         return all.toString();
     }
 

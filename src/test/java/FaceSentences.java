@@ -82,8 +82,7 @@ final class FaceSentences {
         });
         Sentences.of("Not promised").namesNone("How the state is held inside the object is free, as are the speed of each call, "
                 + "the text of toString and the behaviour of equals and hashCode. Use of one object from several threads at once "
-                + "is not promised to be safe. Nothing is promised beyond the answers and state changes described above, and "
-                + "nothing about an object after its 512th call.");
+                + "is not promised to be safe.");
     }
 
     private static int publicMethods() {

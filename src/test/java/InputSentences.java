@@ -180,6 +180,10 @@ final class InputSentences {
                         Checks.error(1, "session ^" + word + ";");
                         String less = word.substring(0, word.length() - 1);
                         String more = word + "x";
+                        String other = "x" + word.substring(1);
+                        if (other.length() <= 6) {
+                            Checks.due("the name " + other, 0, () -> named("box " + other + ";", other));
+                        }
                         if (less.length() <= 6) {
                             Checks.due("the name " + less, 0, () -> named("box " + less + ";", less));
                         }

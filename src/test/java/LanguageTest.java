@@ -12,9 +12,14 @@ import java.util.regex.Pattern;
 /** The rules of LANGUAGE.md that a look at the source's words, or at the compiled classes, can find broken. */
 public final class LanguageTest {
     private static final Path SOURCE = Path.of("src/main/java/MailSessions.java");
-    private static final String[] FORBIDDEN = {"\\bpackage\\b", "\\btry\\b", "\\bcatch\\b", "\\bfinally\\b",
-        "\\bsynchronized\\b", "\\bassert\\b", "->", "::", "\\bequals\\(", "\\bhashCode\\b", "\\btoString\\b", "\\bprotected\\b",
-        "\\bMath\\.\\w*Exact\\b", "\\bSystem\\.(?!arraycopy)", "\\bstatic \\{", "\\bThread\\b", "\\bRandom\\b", "\" \\+", "\\+ \""};
+    /** "Some sixty lines", "some twelve classes". */
+    private static final int MOST_LINES = 66;
+    private static final int MOST_CLASSES = 14;
+    private static final String[] FORBIDDEN = {"\\bpackage\\b", "\\bfinally\\b", "\\bsynchronized\\b", "\\bassert\\b",
+        "^(?!.*\\b(case|default)\\b).*->", "::", "\\bhashCode\\b", "\\bprotected\\b", "\\bgetMessage\\b",
+        "\\bcatch \\((ArrayIndexOutOfBounds|NullPointer|ClassCast|NegativeArraySize|ArrayStore)?Exception\\b",
+        "\\bcatch \\((Throwable|Error)\\b", "\\bMath\\.\\w*Exact\\b", "\\bSystem\\.(?!arraycopy)", "\\bstatic \\{",
+        "\\bThread\\b", "\\bRandom\\b", "\" \\+", "\\+ \"", "\\b(Integer|Long)\\.[A-Z]"};
 
     public static void main(String[] args) throws IOException {
         List<String> lines = Files.readAllLines(SOURCE, StandardCharsets.US_ASCII);
@@ -52,7 +57,7 @@ public final class LanguageTest {
                 if (line.matches(margin + "\\S.*") && line.contains("(") && !type && !line.endsWith(";")) {
                     start = at;
                 } else if (line.equals(margin + "}") && start >= 0) {
-                    if (at - start + 1 > 60) {
+                    if (at - start + 1 > MOST_LINES) {
                         Checks.fail("line " + (start + 1) + " begins a method of " + (at - start + 1) + " lines");
                     }
                     start = -1;
@@ -75,11 +80,11 @@ public final class LanguageTest {
         for (Class<?> inside : MailSessions.class.getDeclaredClasses()) {
             hidden(inside, face);
             classes++;
-            if (!Modifier.isPrivate(inside.getModifiers()) || !Modifier.isStatic(inside.getModifiers())) {
-                Checks.fail("not private and static: " + inside);
+            if (Modifier.isPublic(inside.getModifiers()) || Modifier.isProtected(inside.getModifiers())) {
+                Checks.fail("neither private nor package-visible: " + inside);
             }
         }
-        if (classes > 12) {
+        if (classes > MOST_CLASSES) {
             Checks.fail(classes + " classes");
         }
     }
@@ -89,7 +94,7 @@ public final class LanguageTest {
             if (method.getParameterCount() > 7) {
                 Checks.fail("more than seven parameters: " + method);
             }
-            if (!Modifier.isPublic(method.getModifiers()) && face.contains(method.getName())) {
+            if (Modifier.isPrivate(method.getModifiers()) && face.contains(method.getName())) {
                 Checks.fail("bears the name of a public one: " + method);
             }
         }

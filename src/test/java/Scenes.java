@@ -31,6 +31,21 @@ final class Scenes {
         return x;
     }
 
+    /**
+     * As busy(), but with fewer calls that can be undone, no limit, and no parse error: three boxes, of which the last
+     * is empty; session 0 is told all, 1 is idle, 2 only reads and lags behind, 3 has no box. Slot 1 is empty.
+     */
+    static MailSessions little() {
+        MailSessions x = Checks.loaded("box a;box b;box c;message a size 1 deleted;message a size 2 seen;message b size 3;"
+                + "session s a;session t b;session u reads a;session v;");
+        x.keep(0);
+        x.startIdle(1);
+        x.uidStore(0, 1, 2, 1, 2);
+        x.writeBox(0);
+        Checks.feed(x, "all");
+        return x;
+    }
+
     /** Box a has 30 messages, the most that any limit takes; b and c have none. Session 0 has a, 1 has b. */
     static MailSessions full() {
         MailSessions x = Checks.loaded("box a;box b;box c;session s a;session t b;");

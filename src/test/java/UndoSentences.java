@@ -16,6 +16,7 @@ final class UndoSentences {
         aheadOfLoad();
         notices();
         questions();
+        others();
     }
 
     private static int loads(MailSessions x, String text) {
@@ -308,13 +309,114 @@ final class UndoSentences {
 
     private static void questions() {
         THROWN.holds("Methods that ask what would be do not change anything.", () -> {
-            Checks.unchanged("pending", Scenes::busy, x -> x.pending(2));
-            Checks.unchanged("isCurrent", Scenes::busy, x -> x.isCurrent(2));
-            Checks.unchanged("stale", Scenes::busy, x -> x.stale());
-            Checks.unchanged("numberThen", Scenes::busy, x -> x.numberThen(2, 3));
-            Checks.unchanged("session", Scenes::busy, x -> x.session(2, 6));
-            Checks.unchanged("numberOf", Scenes::busy, x -> x.numberOf(2, 1));
-            Checks.unchanged("largest", Scenes::busy, x -> x.largest(2));
+            for (Checks.Scene scene : new Checks.Scene[] {Scenes::busy, Scenes::little}) {
+                Checks.unchanged("numberThen", scene, x -> x.numberThen(2, 1));
+                Checks.unchanged("pending", scene, x -> x.pending(2));
+                Checks.unchanged("isCurrent", scene, x -> x.isCurrent(2));
+                Checks.unchanged("stale", scene, x -> x.stale());
+                for (int what = 0; what <= 6; what++) {
+                    int asked = what;
+                    Checks.unchanged("session", scene, x -> x.session(2, asked));
+                }
+            }
         });
+    }
+
+    /** What no sentence says of a call, it does not do: each call leaves the parts that it does not speak of. */
+    private static void others() {
+        Sentences.of("Not promised").holds("Nothing is promised beyond the answers and state changes described above, and "
+                + "nothing about an object after its 512th call.", () -> {
+                    for (Checks.Scene scene : new Checks.Scene[] {Scenes::busy, Scenes::little}) {
+                        asking(scene);
+                        acting(scene);
+                        reading(scene);
+                    }
+                });
+    }
+
+    private static void asking(Checks.Scene scene) {
+        Checks.unchanged("errorCode", scene, x -> x.errorCode());
+        Checks.unchanged("errorPosition", scene, x -> x.errorPosition());
+        for (int what = 0; what <= 2; what++) {
+            int asked = what;
+            Checks.unchanged("property", scene, x -> x.property(asked));
+            Checks.unchanged("property, the other ones", scene, x -> x.property(asked + 2));
+            Checks.unchanged("box", scene, x -> x.box(0, asked));
+            Checks.unchanged("box, the other ones", scene, x -> x.box(0, asked + 3));
+            Checks.unchanged("message", scene, x -> x.message(0, 0, asked));
+            Checks.unchanged("entry", scene, x -> x.entry(2, 1, asked));
+            Checks.unchanged("entry, the other ones", scene, x -> x.entry(2, 1, asked + 2));
+            Checks.unchanged("account", scene, x -> x.account(2, asked));
+            Checks.unchanged("account, the other ones", scene, x -> x.account(2, asked + 2));
+            Checks.unchanged("notice", scene, x -> x.notice(0, asked));
+            Checks.unchanged("notice, the other one", scene, x -> x.notice(0, 3));
+        }
+        Checks.unchanged("indexOf", scene, x -> x.indexOf(0, 1));
+        Checks.unchanged("numberOf", scene, x -> x.numberOf(2, 1));
+        Checks.unchanged("firstUnseen", scene, x -> x.firstUnseen(2));
+        Checks.unchanged("largest", scene, x -> x.largest(2));
+        Checks.unchanged("common", scene, x -> x.common(0, 2));
+        Checks.unchanged("holders", scene, x -> x.holders(0, 1));
+        Checks.unchanged("unseen", scene, x -> x.unseen(0));
+        Checks.unchanged("mean", scene, x -> x.mean(0));
+        Checks.unchanged("undoCount", scene, x -> x.undoCount());
+        Checks.unchanged("outputByte", scene, x -> x.outputByte(0));
+    }
+
+    private static void act(String what, Checks.Scene scene, Checks.Act act) {
+        Checks.leaves(what, scene, act, Checks.Part.READING, Checks.Part.OUTPUT, Checks.Part.SLOTS);
+    }
+
+    private static void acting(Checks.Scene scene) {
+        act("select", scene, x -> x.select(0, 1, true));
+        act("noop", scene, x -> x.noop(2));
+        act("startIdle", scene, x -> x.startIdle(2));
+        act("stopIdle", scene, x -> x.stopIdle(1));
+        act("fetch", scene, x -> x.fetch(0, 1, 1, false));
+        act("store", scene, x -> x.store(0, 1, 1, 0, 9, true));
+        act("uidStore", scene, x -> x.uidStore(0, 1, 9, 0, 9));
+        act("expunge", scene, x -> x.expunge(0));
+        act("uidExpunge", scene, x -> x.uidExpunge(0, 1, 9));
+        act("copy", scene, x -> x.copy(0, 1, 1, 1));
+        act("move", scene, x -> x.move(0, 1, 1, 1));
+        act("close", scene, x -> x.close(0));
+        act("deliver", scene, x -> x.deliver(0, 1, 0));
+        act("setLimit", scene, x -> x.setLimit(1));
+        act("restore", scene, x -> x.restore(0));
+        act("undo", scene, x -> x.undo());
+        Checks.Part[] none = {Checks.Part.NOTICES, Checks.Part.READING, Checks.Part.UNDO_COUNT, Checks.Part.KEPT,
+            Checks.Part.INPUT, Checks.Part.PAST};
+        Checks.leaves("keep", scene, x -> x.keep(1), none);
+        Checks.leaves("keep", scene, x -> x.keep(1), Checks.Part.OUTPUT);
+        Checks.leaves("writeBox", scene, x -> x.writeBox(0), none);
+        Checks.leaves("writeView", scene, x -> x.writeView(0), none);
+        Checks.leaves("writeNotices", scene, x -> x.writeNotices(), none);
+        Checks.leaves("writeBox", scene, x -> x.writeBox(0), Checks.Part.SLOTS);
+        Checks.leaves("writeView", scene, x -> x.writeView(0), Checks.Part.SLOTS);
+        Checks.leaves("writeNotices", scene, x -> x.writeNotices(), Checks.Part.SLOTS);
+    }
+
+    private static void reading(Checks.Scene scene) {
+        Checks.Part[] none = {Checks.Part.NOTICES, Checks.Part.UNDO_COUNT, Checks.Part.KEPT, Checks.Part.OUTPUT,
+            Checks.Part.SLOTS, Checks.Part.PAST};
+        Checks.leaves("append", scene, x -> x.append(1, 2, 3, 4, 5), none);
+        Checks.leaves("truncate", scene, x -> x.truncate(1), none);
+        Checks.leaves("findBox", scene, x -> x.findBox(), none);
+        Checks.leaves("findSession", scene, x -> x.findSession(), none);
+        Checks.leaves("searchBox", scene, x -> x.searchBox(0), none);
+        Checks.leaves("searchBox with a parse error", scene, x -> Checks.searched(x, 0, "?"), none);
+        Checks.leaves("load with a parse error", scene, x -> x.load(), none);
+        Checks.leaves("search with a parse error", scene, x -> Checks.found(x, 0, "?"), none);
+        Checks.leaves("search", scene, x -> x.search(0), Checks.Part.OUTPUT, Checks.Part.SLOTS);
+        Checks.leaves("load", scene, x -> loads(x, "box a;"), Checks.Part.OUTPUT, Checks.Part.SLOTS);
+        Checks.Act[] unread = {x -> x.append(1, 2, 3, 4, 5), x -> x.truncate(0), x -> x.findBox(), x -> x.findSession()};
+        for (Checks.Act act : unread) {
+            MailSessions x = scene.make();
+            int code = x.errorCode();
+            int position = x.errorPosition();
+            act.on(x);
+            Checks.due("the code", code, x::errorCode);
+            Checks.due("the position", position, x::errorPosition);
+        }
     }
 }
