@@ -110,7 +110,7 @@ final class Checks {
     }
 
     /** A part of all that can be seen of an object, in less than 400 calls that may spoil it. */
-    enum Part { NOTICES, READING, UNDO_COUNT, KEPT, OUTPUT, INPUT, SLOTS, PAST }
+    enum Part { NOTICES, READING, UNDO_COUNT, LIMIT, KEPT, OUTPUT, INPUT, SLOTS, PAST }
 
     /** An act that is due to leave everything as it was. */
     static void unchanged(String what, Scene scene, Act act) {
@@ -135,6 +135,7 @@ final class Checks {
             case NOTICES: return noticesOf(x);
             case READING: return x.errorCode() + "@" + x.errorPosition() + " of " + inputLength(x);
             case UNDO_COUNT: return "" + x.undoCount();
+            case LIMIT: return "" + x.property(2);
             case KEPT: return kept(x);
             case OUTPUT: return outputOf(x);
             case INPUT: return inputOf(x);

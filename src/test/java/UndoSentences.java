@@ -364,7 +364,7 @@ final class UndoSentences {
     }
 
     private static void act(String what, Checks.Scene scene, Checks.Act act) {
-        Checks.leaves(what, scene, act, Checks.Part.READING, Checks.Part.OUTPUT, Checks.Part.SLOTS);
+        Checks.leaves(what, scene, act, Checks.Part.READING, Checks.Part.OUTPUT, Checks.Part.SLOTS, Checks.Part.LIMIT);
     }
 
     private static void acting(Checks.Scene scene) {
@@ -381,9 +381,10 @@ final class UndoSentences {
         act("move", scene, x -> x.move(0, 1, 1, 1));
         act("close", scene, x -> x.close(0));
         act("deliver", scene, x -> x.deliver(0, 1, 0));
-        act("setLimit", scene, x -> x.setLimit(1));
-        act("restore", scene, x -> x.restore(0));
-        act("undo", scene, x -> x.undo());
+        Checks.Part[] buffers = {Checks.Part.READING, Checks.Part.OUTPUT, Checks.Part.SLOTS};
+        Checks.leaves("setLimit", scene, x -> x.setLimit(1), buffers);
+        Checks.leaves("restore", scene, x -> x.restore(0), buffers);
+        Checks.leaves("undo", scene, x -> x.undo(), buffers);
         Checks.Part[] none = {Checks.Part.NOTICES, Checks.Part.READING, Checks.Part.UNDO_COUNT, Checks.Part.KEPT,
             Checks.Part.INPUT, Checks.Part.PAST};
         Checks.leaves("keep", scene, x -> x.keep(1), none);
@@ -407,7 +408,7 @@ final class UndoSentences {
         Checks.leaves("searchBox with a parse error", scene, x -> Checks.searched(x, 0, "?"), none);
         Checks.leaves("load with a parse error", scene, x -> x.load(), none);
         Checks.leaves("search with a parse error", scene, x -> Checks.found(x, 0, "?"), none);
-        Checks.leaves("search", scene, x -> x.search(0), Checks.Part.OUTPUT, Checks.Part.SLOTS);
+        Checks.leaves("search", scene, x -> x.search(0), Checks.Part.OUTPUT, Checks.Part.SLOTS, Checks.Part.LIMIT);
         Checks.leaves("load", scene, x -> loads(x, "box a;"), Checks.Part.OUTPUT, Checks.Part.SLOTS);
         Checks.Act[] unread = {x -> x.append(1, 2, 3, 4, 5), x -> x.truncate(0), x -> x.findBox(), x -> x.findSession()};
         for (Checks.Act act : unread) {
