@@ -936,7 +936,7 @@ public final class MailSessions {
 
         int everyMessage() {
             int all = 0;
-            for (int index = 0; index < size(); index++) {
+            for (int index = 0; index < uids.size(); index++) {
                 all |= 1 << index;
             }
             return all;
@@ -944,7 +944,7 @@ public final class MailSessions {
 
         int withFlag(int flag) {
             int found = 0;
-            for (int index = 0; index < size(); index++) {
+            for (int index = 0; index < uids.size(); index++) {
                 if ((flags.get(index) & flag) != 0) {
                     found |= 1 << index;
                 }
@@ -954,7 +954,7 @@ public final class MailSessions {
 
         int compared(boolean bySize, boolean less, int bound) {
             int found = 0;
-            for (int index = 0; index < size(); index++) {
+            for (int index = 0; index < uids.size(); index++) {
                 int value = bySize ? sizes.get(index) : uids.get(index);
                 if (less ? value < bound : value > bound) {
                     found |= 1 << index;
